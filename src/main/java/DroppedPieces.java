@@ -9,6 +9,9 @@ public final class DroppedPieces {
     private static final int NO_MOVE = -1;
     private static final int GOES_ON = 0;
     private static final int NO_LEGAL_MOVE = 1;
+    private static final int DRAWN = 2;
+    private static final int CHECKED_BY_PLAYER = 3;
+    private static final int CHECKED_BY_OTHER = 4;
 
     private final Board board;
     private final Rules rules;
@@ -230,9 +233,9 @@ public final class DroppedPieces {
     /** What kinds, values, players and squares are, and how each kind moves. */
     private static final class Pieces {
         static final int PAWN = 1;
-        static final int LANCE = 2;
         static final int KNIGHT = 3;
         static final int GOLD = 5;
+        static final int BISHOP = 6;
         static final int ROOK = 7;
         static final int KING = 8;
         static final int NO_KIND = 13;
@@ -404,7 +407,7 @@ public final class DroppedPieces {
                 setBoth(8 * Pieces.SIDE + column, BACK_ROW[column]);
                 setBoth(6 * Pieces.SIDE + column, Pieces.PAWN);
             }
-            setBoth(7 * Pieces.SIDE + 1, 6);
+            setBoth(7 * Pieces.SIDE + 1, Pieces.BISHOP);
             setBoth(7 * Pieces.SIDE + 7, Pieces.ROOK);
             findKings();
         }
@@ -574,8 +577,8 @@ public final class DroppedPieces {
 
         private final Board board;
         private final int[] pinLines = new int[Pieces.SQUARES];
-        private final boolean[] answers = new boolean[Pieces.SQUARES];
-        int checks;
+        private final int[] answered = new int[Pieces.SQUARES];
+        private int checks;
 
         Guard(Board board) {
             this.board = board;
@@ -584,7 +587,7 @@ public final class DroppedPieces {
         void look(int player) {
             checks = 0;
             Arrays.fill(pinLines, FREE);
-            Arrays.fill(answers, false);
+            Arrays.fill(answered, 0);
             for (int direction = 0; direction < Pieces.LINES; direction++) {
                 lookAlong(player, direction);
             }
@@ -628,20 +631,20 @@ public final class DroppedPieces {
             checks++;
             int step = Pieces.SIDE * Pieces.ROW_STEP[direction] + Pieces.COLUMN_STEP[direction];
             for (int n = 1; n <= distance; n++) {
-                answers[king + n * step] = true;
+                answered[king + n * step]++;
             }
         }
 
         private void lookForKnight(int player, int square) {
             if (board.isKnightAt(player, square)) {
                 checks++;
-                answers[square] = true;
+                answered[square]++;
             }
         }
 
-        /** Whether a piece that comes to a square leaves no check that stands now. */
+        /** Whether a piece that comes to a square answers every check that stands now. */
         boolean allowsTo(int square) {
-            return checks == 0 || checks == 1 && answers[square];
+            return answered[square] == checks;
         }
 
         /** Whether a piece may leave a square in a direction without laying the king bare. */
@@ -696,7 +699,7 @@ public final class DroppedPieces {
                 if (Pieces.isOf(player, value)) {
                     if (Pieces.kindOf(value) == Pieces.KING) {
                         addKingMoves(player, from, row);
-                    } else if (bound.checks < 2) {
+                    } else {
                         addPieceMoves(player, from, bound, row);
                     }
                 }
@@ -789,7 +792,7 @@ public final class DroppedPieces {
 
         private void addDrops(int player, int barredPawn, MoveRow row) {
             for (int kind = Pieces.PAWN; kind <= Pieces.ROOK; kind++) {
-                if (board.hands[Board.handIndex(player, kind)] > 0 && guard.checks < 2) {
+                if (board.hands[Board.handIndex(player, kind)] > 0) {
                     int columns = kind == Pieces.PAWN ? board.pawnColumns(player) : 0;
                     addDropsOf(player, kind, columns, kind == Pieces.PAWN ? barredPawn : NOWHERE, row);
                 }
@@ -813,10 +816,6 @@ public final class DroppedPieces {
     private static final class History {
         static final int MOST = 150;
         private static final int TOO_OFTEN = 4;
-        private static final int GOES_ON = 0;
-        private static final int DRAWN = 2;
-        private static final int CHECKED_BY_PLAYER = 3;
-        private static final int CHECKED_BY_OTHER = 4;
 
         final int[] moves = new int[MOST];
         final int[] taken = new int[MOST];

@@ -3,8 +3,8 @@ import java.util.Random;
 
 /** Positions and games made by a fixed seed, every answer compared with the plain rules' answer. */
 public final class AgainstPlainTest {
-    private static final int GAMES = 400;
-    private static final int MOST_PLAYED = 40;
+    private static final int GAMES = 700;
+    private static final int MOST_PLAYED = 20;
 
     private final Random random;
     private final DroppedPieces x = new DroppedPieces();
@@ -122,7 +122,18 @@ public final class AgainstPlainTest {
                 playOne(moves);
             }
         }
+        comparePosition();
         return mates;
+    }
+
+    private void comparePosition() {
+        for (int s = 0; s < 81; s++) {
+            Check.same(name + " at(" + s + ")", x.at(s), plain.squares[s]);
+        }
+        for (int kind = 1; kind < 8; kind++) {
+            Check.same(name + " hand(0, " + kind + ")", x.hand(0, kind), plain.hands[0][kind]);
+            Check.same(name + " hand(1, " + kind + ")", x.hand(1, kind), plain.hands[1][kind]);
+        }
     }
 
     private void playOne(List<Integer> moves) {
@@ -168,12 +179,9 @@ public final class AgainstPlainTest {
         DroppedPieces other = new DroppedPieces();
         other.clear();
         for (int s = 0; s < 81; s++) {
-            Check.same(name + " at(" + s + ")", x.at(s), plain.squares[s]);
             other.put(s, plain.squares[s]);
         }
         for (int kind = 1; kind < 8; kind++) {
-            Check.same(name + " hand(0, " + kind + ")", x.hand(0, kind), plain.hands[0][kind]);
-            Check.same(name + " hand(1, " + kind + ")", x.hand(1, kind), plain.hands[1][kind]);
             other.give(0, kind, plain.hands[0][kind]);
             other.give(1, kind, plain.hands[1][kind]);
         }
