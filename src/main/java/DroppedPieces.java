@@ -64,7 +64,6 @@ public final class DroppedPieces {
         if (!Pieces.isPlayer(player) || !board.mayStart(player)) {
             throw new IllegalArgumentException("no game can begin so");
         }
-        history.length = 0;
         toMove = player;
     }
 

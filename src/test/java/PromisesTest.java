@@ -23,6 +23,7 @@ public final class PromisesTest {
         promotions();
         drops();
         shields();
+        knightChecks();
         move();
         isLegal();
         pawnMate();
@@ -416,6 +417,26 @@ public final class PromisesTest {
                 Setup.game("8k/9/9/9/9/4l4/4g4/4K4/9 b -").isLegal(Setup.move(67, 58)));
         Check.yes("one that is not guarded is",
                 Setup.game("8k/9/9/9/9/9/4g4/4K4/9 b -").isLegal(Setup.move(67, 58)));
+    }
+
+    private static void knightChecks() {
+        DroppedPieces x = Setup.game("n7k/9/RK7/9/9/9/9/9/9 b G");
+        Check.yes("a knight in the corner reaches", x.reaches(1, 19));
+        Check.yes("a knight in the corner gives check", x.inCheck(0));
+        Check.yes("it may be taken", x.isLegal(Setup.move(18, 0)));
+        Check.no("nothing stands between", x.isLegal(Setup.drop(5, 10)));
+        Check.no("no other move of the rook", x.isLegal(Setup.move(18, 9)));
+        Check.yes("the king moves", x.isLegal(Setup.move(19, 10)));
+        for (int knight : new int[] {48, 50}) {
+            DroppedPieces y = Setup.squares("K8/9/9/4k4/9/9/9/9/9");
+            y.put(knight, 3);
+            y.put(knight + 9, -2);
+            y.put(knight - 9, -2);
+            y.start(1);
+            Check.yes("player 0's knight gives check", y.inCheck(1));
+            Check.yes("a lance takes it", y.isLegal(Setup.move(knight - 9, knight)));
+            Check.no("a lance behind it can't", y.isLegal(Setup.move(knight + 9, knight + 18)));
+        }
     }
 
     private static void move() {
