@@ -230,13 +230,19 @@ public final class GameBoundaryTest {
         sides.times(2);
     }
 
-    /** The squares come again, but a pawn is in another hand. */
+    /** The squares come again, but a piece is in another hand: each kind. */
     static void promise16OtherHands() {
-        Sides sides = new Sides("k8/9/9/9/4p4/4G4/9/9/8K", "2p");
-        sides.play(Setup.move(49, 40), 1);
-        played(sides, Setup.move(0, 1), Setup.move(40, 49), Setup.drop(1, 40));
-        played(sides, Setup.move(80, 79), Setup.move(1, 10), Setup.move(79, 80), Setup.move(10, 0));
-        sides.at(49, 5).at(40, -1).at(80, 8).at(0, -8).hand(0, 1, 1).hand(1, 1, 1).times(1);
+        String kinds = "plnsgbr";
+        for (int kind = 1; kind <= 7; kind++) {
+            char c = kinds.charAt(kind - 1);
+            Sides sides = new Sides("k8/9/9/9/4" + c + "4/4G4/9/9/6K2", "2" + c);
+            sides.play(Setup.move(49, 40), kind);
+            played(sides, Setup.move(0, 1), Setup.move(40, 49), Setup.drop(kind, 40));
+            played(sides, Setup.move(78, 79), Setup.move(1, 9), Setup.move(79, 78), Setup.move(9, 0));
+            sides.at(49, 5).at(40, -kind).at(78, 8).at(0, -8).hand(0, kind, 1).hand(1, kind, 1).times(1);
+            played(sides, Setup.move(78, 79), Setup.move(0, 9), Setup.move(79, 78), Setup.move(9, 0));
+            sides.times(2);
+        }
     }
 
     /** Both have taken a pawn and dropped it: the squares, the hands and who is to move are as they were. */
@@ -254,6 +260,10 @@ public final class GameBoundaryTest {
         Sides sides = new Sides("9/9/4S4/9/9/K7k/9/9/9", "-");
         played(sides, Setup.promote(22, 13), Setup.move(53, 62), Setup.move(13, 22), Setup.move(62, 53));
         sides.at(22, 12).times(1);
+        // The first and, turned round, the last square are all that differs.
+        Sides corner = new Sides("S8/9/9/9/9/K7k/9/9/9", "-");
+        played(corner, Setup.move(0, 10), Setup.move(53, 62), Setup.promote(10, 0), Setup.move(62, 53));
+        corner.at(0, 12).times(1);
     }
 
     /** Two pieces of a kind have changed places: the squares have the same values. */
@@ -372,8 +382,29 @@ public final class GameBoundaryTest {
                 x -> x.play(Setup.move(4, 13)), x -> x.play(Setup.drop(5, 40)), x -> x.play(Setup.drop(1, 4)));
     }
 
-    static void promise17MateByADroppedPawn() {
-        new Sides("kl7/2G6/1S7/9/9/9/9/9/4K4", "P").illegal(Setup.drop(1, 9)).hand(0, 1, 1).at(9, 0);
+    /** Each rule by which a move that looks right is not legal: refused, and nothing changes. */
+    static void promise17NotLegalByOneRule() {
+        refused("mate by a dropped pawn", "kl7/2G6/1S7/9/9/9/9/9/4K4 b P", Setup.drop(1, 9));
+        refused("a second pawn in a column", "8k/9/9/4P4/9/9/9/9/K8 b P", Setup.drop(1, 67));
+        refused("a pawn dropped in the last row", "8k/9/9/9/9/9/9/9/K8 b P", Setup.drop(1, 0));
+        refused("a lance dropped in the last row", "8k/9/9/9/9/9/9/9/K8 w l", Setup.drop(2, 80));
+        refused("a knight dropped in the last row but one", "8k/9/9/9/9/9/9/9/K8 w n", Setup.drop(3, 71));
+        refused("a drop on a piece", "8k/9/9/4p4/9/9/9/9/K8 b G", Setup.drop(5, 31));
+        refused("a drop that promotes", "8k/9/9/9/9/9/9/9/K8 b S", Setup.drop(4, 9) + 16384);
+        refused("a pawn that must promote", "8k/P8/9/9/9/9/9/9/K8 b -", Setup.move(9, 0));
+        refused("a lance that must promote", "8k/9/L8/9/9/9/9/9/K8 b -", Setup.move(18, 0));
+        refused("a knight that must promote", "8k/9/9/9/9/n8/9/9/K8 w -", Setup.move(45, 64));
+        refused("a gold that promotes", "8k/9/G8/9/9/9/9/9/K8 b -", Setup.promote(18, 9));
+        refused("a promotion outside the zone", "8k/9/9/9/S8/9/9/9/K8 b -", Setup.promote(36, 27));
+        refused("a shield that goes aside", "r7k/9/9/G8/9/9/9/9/K8 b -", Setup.move(27, 28));
+        refused("a king that goes into check", "1r6k/9/9/9/9/9/9/9/K8 b -", Setup.move(72, 73));
+        refused("a check that is not answered", "r7k/9/9/1G7/9/9/9/9/K8 b -", Setup.move(28, 29));
+        refused("a run over a piece", "8k/9/9/9/R1P6/9/9/9/K8 b -", Setup.move(36, 39));
+        refused("a piece of its own there", "8k/9/9/9/R1P6/9/9/9/K8 b -", Setup.move(36, 38));
+    }
+
+    private static void refused(String what, String position, int move) {
+        Refused.unchanged(what, () -> Setup.game(position), x -> Check.argument(what, () -> x.play(move)));
     }
 
     /** "IllegalStateException when a position is being set up", whatever was before. */

@@ -41,6 +41,48 @@ public final class MovesBoundaryTest {
         sides.moves(5 + (8 * 9 - 1) + (8 * 9 - 1) + (7 * 9 - 1) + 4 * 79);
     }
 
+    /** More moves than a game with forty pieces could have: each is counted and listed. */
+    static void promise12MoreThanAnyGameHas() {
+        int[] squares = new int[81];
+        for (int k = 0; k < 8; k++) {
+            squares[10 * k] = 7;
+        }
+        int[] others = {63, -5, 64, -5, 73, -5, 72, -8, 80, 8, 2, 6, 5, 6, 24, 6, 37, 6, 44, 6, 6, 14, 62, 15};
+        for (int k = 0; k < others.length; k += 2) {
+            squares[others[k]] = others[k + 1];
+        }
+        PlainShogi plain = new PlainShogi();
+        plain.squares = squares;
+        for (int kind = 1; kind <= 7; kind++) {
+            plain.hands[0][kind] = 18;
+        }
+        List<Integer> due = plain.moves();
+        Check.yes("more than 593", due.size() > 593);
+        for (int first = 0; first < due.size(); first += 300) {
+            DroppedPieces x = plainly(plain);
+            Check.same("moves()", x.moves(), due.size());
+            for (int k = first; k < first + 300 && k < due.size(); k++) {
+                Check.same("move(" + k + ")", x.move(k), due.get(k));
+            }
+            Check.index("move(n)", () -> x.move(due.size()));
+        }
+        Check.yes("isLegal of the last", plainly(plain).isLegal(due.get(due.size() - 1)));
+        Check.same("play of the last", plainly(plain).play(due.get(due.size() - 1)), 0);
+    }
+
+    private static DroppedPieces plainly(PlainShogi plain) {
+        DroppedPieces x = Scene.cleared(new DroppedPieces());
+        for (int s = 0; s < 81; s++) {
+            x.put(s, plain.squares[s]);
+        }
+        for (int kind = 1; kind <= 7; kind++) {
+            x.give(0, kind, plain.hands[0][kind]);
+            x.give(1, kind, plain.hands[1][kind]);
+        }
+        x.start(plain.toMove);
+        return x;
+    }
+
     /** No square is empty: nothing can be dropped. */
     static void promise12FullBoard() {
         Sides sides = new Sides(fullBoard(), "18P18L18N18S18G18B18R");
@@ -110,9 +152,12 @@ public final class MovesBoundaryTest {
     static void promise13Order() {
         for (Scene scene : Scene.games()) {
             DroppedPieces x = scene.make();
-            int n = Math.min(x.moves(), 250);
-            for (int k = 1; k < n; k++) {
-                Check.yes(scene + ": move " + k, comesBefore(x.move(k - 1), x.move(k)));
+            int n = Math.min(x.moves(), 300);
+            int before = -1;
+            for (int k = 0; k < n; k++) {
+                int move = x.move(k);
+                Check.yes(scene + ": move " + k, before < 0 || comesBefore(before, move));
+                before = move;
             }
         }
     }
@@ -479,10 +524,14 @@ public final class MovesBoundaryTest {
     static void promise14NoKingIsTaken() {
         for (Scene scene : Scene.games()) {
             DroppedPieces x = scene.make();
-            int n = Math.min(x.moves(), 200);
+            int[] values = new int[81];
+            for (int s = 0; s < 81; s++) {
+                values[s] = x.at(s);
+            }
+            int n = Math.min(x.moves(), 250);
             for (int k = 0; k < n; k++) {
                 int to = x.move(k) / 128 % 128;
-                Check.no(scene + ": a king on " + to, x.at(to) == 8 || x.at(to) == -8);
+                Check.no(scene + ": a king on " + to, values[to] == 8 || values[to] == -8);
             }
         }
     }

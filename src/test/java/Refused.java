@@ -1,6 +1,7 @@
 import java.util.List;
 import java.util.TreeSet;
 import java.util.function.Consumer;
+import java.util.function.Supplier;
 
 /** Calls that are refused, or that only look: behind them all that the face shows is as it was before. */
 final class Refused {
@@ -50,12 +51,21 @@ final class Refused {
 
     /** Some calls leave all that the face shows as it was. */
     static void unchanged(String what, Scene scene, Consumer<DroppedPieces> calls) {
+        unchanged(what, scene::make, scene.view(), calls);
+    }
+
+    static void unchanged(String what, Supplier<DroppedPieces> make, Consumer<DroppedPieces> calls) {
+        unchanged(what, make, View.of(make), calls);
+    }
+
+    private static void unchanged(String what, Supplier<DroppedPieces> make, String before,
+            Consumer<DroppedPieces> calls) {
         String got = View.of(() -> {
-            DroppedPieces x = scene.make();
+            DroppedPieces x = make.get();
             calls.accept(x);
             return x;
         });
-        Check.same(what + ": change", View.difference(got, scene.view()), "");
+        Check.same(what + ": change", View.difference(got, before), "");
     }
 
     /** A call with a number. */

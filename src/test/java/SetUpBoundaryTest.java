@@ -284,13 +284,12 @@ public final class SetUpBoundaryTest {
         Check.same("hand(0, 1)", x.hand(0, 1), 18);
     }
 
+    /** Neither player can begin so, and a start that is refused changes nothing. */
     private static void refused(String what, String board) {
-        for (int player = 0; player < 2; player++) {
-            DroppedPieces x = Setup.squares(board);
-            int starter = player;
-            Check.argument(what + ": start(" + player + ")", () -> x.start(starter));
-            Check.same(what + ": player()", x.player(), -1);
-        }
+        Refused.unchanged(what, () -> Setup.squares(board), x -> {
+            Check.argument(what + ": start(0)", () -> x.start(0));
+            Check.argument(what + ": start(1)", () -> x.start(1));
+        });
     }
 
     private static void accepted(String what, String board) {
@@ -474,6 +473,19 @@ public final class SetUpBoundaryTest {
     static void promise06BothInCheck() {
         refused("both in check", "4k4/9/4R4/9/9/9/3r5/9/3K5");
         refused("both in check on one line", "4k4/4R4/9/9/9/9/9/4r4/4K4");
+    }
+
+    /** The player that is not to move is in check: refused, nothing changes, and the other one may begin. */
+    static void promise06InCheckRefusedOnce() {
+        Refused.unchanged("start(0)", () -> Setup.squares("4k4/9/4R4/9/9/9/9/9/4K4"),
+                x -> Check.argument("player 1 in check: start(0)", () -> x.start(0)));
+        Refused.unchanged("start(1)", () -> Setup.squares("4k4/9/9/9/9/9/3n5/9/4K4"),
+                x -> Check.argument("player 0 in check: start(1)", () -> x.start(1)));
+        DroppedPieces x = Setup.squares("4k4/9/4R4/9/9/9/9/9/4K4");
+        Check.argument("player 1 in check: start(0)", () -> x.start(0));
+        x.start(1);
+        Check.same("player()", x.player(), 1);
+        Check.yes("inCheck(1)", x.inCheck(1));
     }
 
     static void promise06ShieldedIsNotInCheck() {
