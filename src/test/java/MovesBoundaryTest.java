@@ -460,6 +460,8 @@ public final class MovesBoundaryTest {
         new Sides("4r4/9/9/4N4/9/9/9/4K4/8k", "-").just(31);
         new Sides("9/9/9/b8/9/2S6/9/4K4/8k", "-").just(47, Setup.move(47, 37),
                 Setup.move(47, 57));
+        // Of two, each is free to go: the other one stays.
+        new Sides("4r4/9/9/4R4/9/4S4/9/4K4/8k", "-").legal(Setup.move(31, 30), Setup.move(49, 39), Setup.move(31, 40));
         new Sides("9/9/9/9/9/9/9/r3G3K/k8", "-").just(67, Setup.move(67, 66), Setup.move(67, 68));
     }
 
@@ -472,8 +474,11 @@ public final class MovesBoundaryTest {
         new Sides("9/9/9/9/9/3n5/R8/4K4/8k", "G").just(67, Setup.move(67, 57), Setup.move(67, 58),
                 Setup.move(67, 59), Setup.move(67, 66), Setup.move(67, 68), Setup.move(67, 75), Setup.move(67, 76),
                 Setup.move(67, 77));
+        // A knight on either side: it is taken, or the king goes, but nothing stands between.
         new Sides("9/9/9/9/9/R2n5/9/4K4/8k", "G").just(45, Setup.move(45, 48))
                 .illegal(Setup.drop(5, 57), Setup.drop(5, 58));
+        new Sides("9/9/9/9/9/R4n3/9/4K4/8k", "G").just(45, Setup.move(45, 50))
+                .illegal(Setup.drop(5, 59), Setup.drop(5, 58));
     }
 
     /** Two checks at once: only the king moves. */
@@ -502,6 +507,13 @@ public final class MovesBoundaryTest {
         new Sides("kl7/2G6/1S7/9/9/r8/9/9/4K4", "P").legal(Setup.drop(1, 9));
         new Sides("kl7/2G6/1S7/1n7/9/9/9/9/4K4", "P").illegal(Setup.drop(1, 9));
         new Sides("kl7/2G6/gS7/9/9/9/9/9/4K4", "P").legal(Setup.drop(1, 9));
+    }
+
+    /** Barred, or not, anew with every position. */
+    static void promise14MateByADroppedPawnLaterOn() {
+        new Sides("kl7/2G6/9/1S6p/9/9/9/9/4K4", "P").legal(Setup.drop(1, 9)).play(Setup.move(28, 19), 0)
+                .play(Setup.move(35, 44), 0).illegal(Setup.drop(1, 9)).back(Setup.move(35, 44))
+                .back(Setup.move(28, 19)).legal(Setup.drop(1, 9));
     }
 
     /** A piece that could take the dropped pawn, but shields its king, is no answer. */
