@@ -74,7 +74,7 @@ public final class AgainstPlainTest {
     }
 
     private boolean started() {
-        boolean due = kings() == 2 && !plain.inCheck(1 - plain.toMove) && piecesAreSound();
+        boolean due = plain.mayStart(plain.toMove);
         boolean got = true;
         try {
             x.start(plain.toMove);
@@ -83,22 +83,6 @@ public final class AgainstPlainTest {
         }
         Check.same(name + " starts", got ? 1 : 0, due ? 1 : 0);
         return due;
-    }
-
-    private boolean piecesAreSound() {
-        int[] pawns = new int[18];
-        for (int s = 0; s < 81; s++) {
-            int value = plain.squares[s];
-            int left = value > 0 ? s / 9 : 8 - s / 9;
-            int kind = Math.abs(value);
-            if ((kind == 1 || kind == 2) && left == 0 || kind == 3 && left < 2) {
-                return false;
-            }
-            if (kind == 1 && ++pawns[(value > 0 ? 0 : 9) + s % 9] > 1) {
-                return false;
-            }
-        }
-        return true;
     }
 
     private int run(int[] results) {
@@ -116,8 +100,7 @@ public final class AgainstPlainTest {
                 return mates;
             }
             if (result != 0 || plain.made() > 0 && random.nextInt(12) == 0) {
-                x.back();
-                plain.back();
+                Check.same(name + " back()", x.back(), plain.back());
             } else {
                 playOne(moves);
             }

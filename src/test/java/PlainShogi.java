@@ -8,6 +8,7 @@ final class PlainShogi {
     int[][] hands = new int[2][8];
     int toMove;
     private final List<PlainShogi> before = new ArrayList<>();
+    private final List<Integer> made = new ArrayList<>();
     private final List<Boolean> checks = new ArrayList<>();
 
     private PlainShogi copy() {
@@ -75,6 +76,24 @@ final class PlainShogi {
             }
         }
         return false;
+    }
+
+    /** Whether a game may begin with the squares, a player being to move. */
+    boolean mayStart(int player) {
+        int[] kings = new int[2];
+        int[][] pawns = new int[2][9];
+        for (int s = 0; s < 81; s++) {
+            int kind = Math.abs(squares[s]);
+            if (kind == 0) {
+                continue;
+            }
+            int owner = owner(squares[s]);
+            if (neverMovesOn(kind, owner, s) || kind == 1 && ++pawns[owner][s % 9] > 1) {
+                return false;
+            }
+            kings[owner] += kind == 8 ? 1 : 0;
+        }
+        return kings[0] == 1 && kings[1] == 1 && !inCheck(1 - player);
     }
 
     private static boolean neverMovesOn(int kind, int player, int square) {
@@ -191,9 +210,17 @@ final class PlainShogi {
     }
 
     int times() {
-        int n = 1;
+        return 1 + timesBefore(this);
+    }
+
+    int timesBehind(int move) {
+        return timesBefore(behind(move));
+    }
+
+    private int timesBefore(PlainShogi position) {
+        int n = 0;
         for (PlainShogi past : before) {
-            n += same(past) ? 1 : 0;
+            n += past.same(position) ? 1 : 0;
         }
         return n;
     }
@@ -224,6 +251,7 @@ final class PlainShogi {
     int play(int move) {
         int taken = move % 128 > 80 ? 0 : Math.abs(squares[move / 128 % 128]);
         before.add(copy());
+        made.add(move);
         PlainShogi next = behind(move);
         squares = next.squares;
         hands = next.hands;
@@ -232,12 +260,13 @@ final class PlainShogi {
         return taken;
     }
 
-    void back() {
+    int back() {
         PlainShogi past = before.remove(before.size() - 1);
         checks.remove(checks.size() - 1);
         squares = past.squares;
         hands = past.hands;
         toMove = past.toMove;
+        return made.remove(made.size() - 1);
     }
 
     int made() {
