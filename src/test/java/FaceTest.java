@@ -23,16 +23,19 @@ public final class FaceTest {
         Set<String> seen = new TreeSet<>();
         for (Method m : DroppedPieces.class.getDeclaredMethods()) {
             if (!Modifier.isPrivate(m.getModifiers()) && !m.isSynthetic()) {
-                Check.yes(m + " is public", Modifier.isPublic(m.getModifiers()));
+                Check.same(m + " is public, and nothing else", Modifier.toString(m.getModifiers()), "public");
                 seen.add(text(m));
             }
         }
         Check.yes("the face is " + seen, seen.equals(DUE));
-        Check.yes("the class is final", Modifier.isFinal(DroppedPieces.class.getModifiers()));
+        Check.same("the class", Modifier.toString(DroppedPieces.class.getModifiers()), "public final");
+        Check.same("its superclass", DroppedPieces.class.getSuperclass().getName(), "java.lang.Object");
+        Check.same("interfaces", DroppedPieces.class.getInterfaces().length, 0);
+        Check.same("public classes inside", DroppedPieces.class.getClasses().length, 0);
         Check.same("visible fields", visibleFields(), 0);
         Constructor<?>[] made = DroppedPieces.class.getDeclaredConstructors();
         Check.yes("one public constructor", made.length == 1 && Modifier.isPublic(made[0].getModifiers())
-                && made[0].getParameterCount() == 0);
+                && made[0].getParameterCount() == 0 && made[0].getExceptionTypes().length == 0);
         Check.end();
     }
 
